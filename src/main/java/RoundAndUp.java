@@ -1321,9 +1321,17 @@ public final class RoundAndUp {
         private void writeRow(Ring ring, int first) {
             row[0] = first;
             for (int i = 1; i < ring.count; i++) {
-                int may = suits[(i - 1) * MOST_CRANK + row[i - 1]] & goesOn[i];
-                row[i] = Math.min(Integer.numberOfTrailingZeros(may), MOST_PHASE);
+                row[i] = leastOf(suits[(i - 1) * MOST_CRANK + row[i - 1]] & goesOn[i]);
             }
+        }
+
+        private static int leastOf(int phases) {
+            for (int phase = 0; phase < MOST_CRANK; phase++) {
+                if ((phases >> phase & 1) == 1) {
+                    return phase;
+                }
+            }
+            return 0;
         }
     }
 

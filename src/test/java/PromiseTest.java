@@ -777,6 +777,12 @@ public final class PromiseTest {
         x.photo(0, 1, 3);
         x.photo(0, 2, 4);
         due(36, "phase 4 but for the third, phase 2 but for the first", x.liar(0), 0);
+        x = horses(1, 4);
+        text(x, "animal if phase = 4 stop;");
+        for (int t = 0; t < 4; t++) {
+            x.photo(0, t, t == 3 ? 3 : 0);
+        }
+        due(36, "phases below the crank alone", x.liar(0), NONE);
     }
 
     private static void rowsProved() {
@@ -1133,6 +1139,25 @@ public final class PromiseTest {
         for (int i = 0; i < 5; i++) {
             due(51, "animalOf(" + i + ", 4) by the rules kept", x.animalOf(i, 4), price[i]);
         }
+        RoundAndUp nine = horses(9, 4);
+        String eight = "";
+        for (int k = 0; k < 8; k++) {
+            eight += "animal if number=" + k + " free;";
+        }
+        due(10, "eight rules with conditions", text(nine, eight), 8);
+        nine.child(128, 9);
+        nine.child(256, 9);
+        nine.ride();
+        nine.keep();
+        nine.away();
+        nine.child(1, 1);
+        text(nine, "animal slow;");
+        due(51, "again() with nine", nine.again(), 9);
+        due(51, "animalOf(7, 4) by the eighth rule", nine.animalOf(7, 4), 0);
+        due(51, "animalOf(8, 4) by none", nine.animalOf(8, 4), 8);
+        due(51, "childOf(0, 0)", nine.childOf(0, 0), 128);
+        due(51, "childOf(0, 2)", nine.childOf(0, 2), 7);
+        due(51, "childOf(1, 1)", nine.childOf(1, 1), 1);
         RoundAndUp y = new RoundAndUp();
         y.keep();
         y.animal(1, 4, 0, 0);
