@@ -494,12 +494,12 @@ public final class RoundAndUp {
         if (!isSheet(sheet) || !isWithin(n, 0, MOST_ANIMALS)) {
             return BAD;
         }
-        if (sheets.sort[sheet] != MISSING && sheets.sort[sheet] != BYTES) {
-            return OTHER_SORT;
-        }
-        // A missing row is asked for its items only: of no items there is nothing to miss.
-        if (sheets.sort[sheet] == MISSING && n > 0) {
+        // It is the SHEET that is asked, not its items alone: these two refuse 0 items, too.
+        if (sheets.sort[sheet] == MISSING) {
             return NOTHING_THERE;
+        }
+        if (sheets.sort[sheet] != BYTES) {
+            return OTHER_SORT;
         }
         int came = 0;
         for (int j = 0; j < n; j++) {

@@ -485,7 +485,7 @@ public final class ModelTest {
         int sets(int s, int k, int n) {
             if (!in(s, 0, 3) || !in(n, 0, 9)) return -1;
             return hosted(() -> {
-                byte[] b = (byte[]) sheets[s];
+                byte[] b = java.util.Objects.requireNonNull((byte[]) sheets[s]);
                 int came = 0;
                 for (int j = 0; j < n; j++) if (change(j, 2, b[k + j]) >= 0) came++;
                 return came;

@@ -937,8 +937,17 @@ public final class PromiseTest {
         due(44, "sets(1, 0, 10)", x.sets(1, 0, 10), BAD);
         due(44, "sets(4, 0, 1)", x.sets(4, 0, 1), BAD);
         due(44, "sets(0, 0, 1)", x.sets(0, 0, 1), -11);
+        due(44, "0 items of a missing one", x.sets(0, 0, 0), -11);
+        due(44, "0 items outside of a missing one", x.sets(0, -1, 0), -11);
         x.sheet(2, 4, 7);
         due(44, "sets(2, 0, 1)", x.sets(2, 0, 1), -13);
+        due(44, "0 items of another sort", x.sets(2, 0, 0), -13);
+        x.sheet(2, 0, 0);
+        due(44, "0 items of an empty row", x.sets(2, 0, 0), 0);
+        due(44, "1 item of an empty row", x.sets(2, 0, 1), -12);
+        x.sheet(1, -1, 0);
+        due(44, "0 items of one that is missing again", x.sets(1, 0, 0), -11);
+        due(44, "0 items of a missing one on a new object", new RoundAndUp().sets(3, 0, 0), -11);
     }
 
     private static void shelvesHeld() {
