@@ -139,6 +139,11 @@ public final class BoundaryTest {
         dueText(s, -100 - place);
     }
 
+    /** A text that is whole has no FAULT: none or one RULE then. */
+    private static void dueFault(String s, int place, boolean isWhole) {
+        dueText(s, isWhole ? (s.isBlank() ? 0 : 1) : -100 - place);
+    }
+
     private static void turns(RoundAndUp x, int n) {
         int left = n;
         while (left > 0) {
@@ -338,6 +343,16 @@ public final class BoundaryTest {
             due("sets(1, 0, 10) of ints", x.sets(1, 0, 10), BAD);
             due("taken(2, 6) of nothing", x.taken(2, 6), BAD);
         });
+        terms("FULL (-2); NONE (-3); STATE (-4)", () -> {
+            RoundAndUp x = full();
+            due("a tenth ANIMAL", x.animal(1, 8, 0, 0), -2);
+            due("a ninth CHILD", x.child(0, 0), -2);
+            due("a seventh PHOTO", x.photo(0, 0, 0), -2);
+            due("bytes above 200", x.feed(0, 8), -2);
+            due("tune(0) by LEVEL 0", x.tune(0), -3);
+            due("trace(29)", x.trace(29), -3);
+            due("TURNS above 9999", x.turn(500), -4);
+        });
         terms("-11 nothing where something is asked", () -> {
             RoundAndUp x = new RoundAndUp();
             due("write(0, 0, 1)", x.write(0, 0, 1), NOTHING);
@@ -372,6 +387,17 @@ public final class BoundaryTest {
             RoundAndUp x = horses(2, 0, 0, 0);
             x.shelf(0, 0, 2);
             due("act(0, 2, 7) of number 2 on CRANK 2", x.act(0, 2, 7), PARTED);
+        });
+        terms("Sets are told by bits.", () -> {
+            RoundAndUp x = nine();
+            x.level(6);
+            for (int i = 0; i < 9; i++) {
+                x.change(i, 2, 6);
+                due("ANIMAL " + i + " alone", x.high(0), 1 << i);
+                due("down with those of its bit", x.together(1 << i, 0), 6);
+                x.change(i, 2, 0);
+            }
+            due("PHASES of the first: all but that of the others", x.phases(0), 4094);
         });
         terms("Quotients are cut towards 0.", () -> {
             RoundAndUp x = horses(8, 0, 0, 0, 0, 0, 0, 0, 0, 0);
@@ -461,6 +487,18 @@ public final class BoundaryTest {
                 x.level(2);
                 due("clash(0) of ring " + k, x.clash(0), clash[k]);
             }
+        });
+        terms("CLASH in a TURN: two BESIDE one another are HIGH.", () -> {
+            // On CRANK 4 by LEVEL 2 a horse is HIGH in turn 0 by PHASE 2 alone.
+            RoundAndUp x = horses(4, 2, 0, 0, 0, 0);
+            x.level(2);
+            due("one alone", x.clash(0), NONE);
+            x.change(2, 2, 2);
+            due("two that aren't BESIDE one another", x.clash(0), NONE);
+            due("in turn 2 the others are HIGH: the last two of these are", x.nextClash(0) * 10 + x.clash(2), 23);
+            x.change(3, 2, 2);
+            due("two that are", x.clash(0), 2);
+            due("none in turn 1", x.clash(1), NONE);
         });
         terms("horse, white: t. swan: half of t. ostrich: as swan, and 1 more if t is odd. lame: t and a seventh of t.", () -> {
             RoundAndUp x = ring(HORSE, 12, 0, 0, WHITE, 12, 0, 0, SWAN, 12, 0, 0, OSTRICH, 12, 0, 0, LAME, 12, 0, 0);
@@ -630,6 +668,11 @@ public final class BoundaryTest {
             dueText("lame stop;".repeat(8), 8);
             dueText("lame stop;".repeat(8) + "  ", 8);
             dueFault("lame stop;".repeat(9), 80);
+            RoundAndUp x = horses(8, 0);
+            due("the eighth with a condition", text(x, "lame stop;".repeat(7) + "horse if 1 = 2 stop;"), 8);
+            due("it doesn't hold", x.animalOf(0, 5), 0);
+            due("the eighth with another", text(x, "lame stop;".repeat(7) + "horse if 2 = 2 stop;"), 8);
+            due("it holds", x.animalOf(0, 5), 2);
         });
         terms("KIND: animal | horse | swan | white | lame | ostrich.", () -> {
             dueText("animal free; horse free; swan free; white free; lame free; ostrich free;", 6);
@@ -663,6 +706,12 @@ public final class BoundaryTest {
             dueFault("swan if (1 = 1 stop;", 15);
             dueFault("swan if 1 = 1) stop;", 13);
             dueFault("swan if 1 = 1 or stop;", 17);
+            dueFault("swan if 1 = 1 and stop;", 18);
+            dueFault("swan if (1 = 1 or) stop;", 17);
+            dueFault("swan if 1 stop;", 10);
+            dueFault("swan if 1 < stop;", 12);
+            dueFault("swan if 1 < 2 < 3 stop;", 14);
+            dueFault("swan if (1) < 2 stop;", 10);
             dueFault("swan if not stop;", 12);
         });
         terms("N | level | crank | phase | price | number SIGN: < | = | >", () -> {
@@ -735,6 +784,46 @@ public final class BoundaryTest {
         });
     }
 
+    private static final String[] NAMES = {"animal", "horse", "swan", "white", "lame", "ostrich", "if", "free", "dear", "slow", "stop", "or", "and",
+        "not", "level", "crank", "phase", "price", "number"};
+
+    private static boolean isOneOf(String name, String... names) {
+        return List.of(names).contains(name);
+    }
+
+    private static void namesInPlaces() {
+        terms("the first byte of the first NAME, NUMBER or other byte that can't stand there", () -> {
+            for (int k = 0; k < NAMES.length; k++) {
+                String name = NAMES[k];
+                int end = name.length();
+                dueFault(name, k < 6 ? end : 0);
+                dueFault("swan " + name, isOneOf(name, "if", "free", "dear", "slow", "stop") ? 5 + end : 5);
+                dueFault("swan if " + name, k >= 13 ? 8 + end : 8);
+                dueFault("swan if 1 " + name, 10);
+                dueFault("swan if 1 < " + name, k >= 14 ? 12 + end : 12);
+                dueFault("swan if 1 < 2 " + name, isOneOf(name, "or", "and", "free", "dear", "slow", "stop") ? 14 + end : 14);
+                dueFault("swan if (1 < 2 " + name, isOneOf(name, "or", "and") ? 15 + end : 15);
+                dueFault("swan dear " + name, 10);
+                dueFault("swan stop " + name, 10);
+                dueFault("swan stop; " + name, k < 6 ? 11 + end : 11);
+            }
+        });
+        terms("other byte that can't stand there", () -> {
+            for (int b = 0; b < 256; b++) {
+                char c = (char) b;
+                boolean isLetter = c >= 'a' && c <= 'z';
+                boolean isDigit = c >= '0' && c <= '9';
+                dueFault("  " + c, c == ' ' ? 0 : 2, c == ' ');
+                dueFault("swan " + c, c == ' ' ? 6 : 5);
+                dueFault("swan if 1" + c, c == '<' || c == '=' || c == '>' || c == ' ' || isDigit ? 10 : 9);
+                dueFault("swan if 1<" + c, c == ' ' || isDigit ? 11 : 10);
+                dueFault("swan if " + c, c == ' ' || c == '(' || isDigit ? 9 : 8);
+                dueFault("swan if (1<2" + c, c == ' ' || c == ')' || isDigit ? 13 : 12);
+                dueFault("swan stop" + c, c == ' ' || c == ';' ? 10 : isLetter ? 5 : 9, c == ';');
+            }
+        });
+    }
+
     private static void faults() {
         terms("the place (from 0) of the first byte of the first NAME, NUMBER or other byte that can't stand there", () -> {
             dueFault("free swan;", 0);
@@ -772,6 +861,11 @@ public final class BoundaryTest {
             dueText(whole, 1);
             dueFault("swan stop   ", 12);
             dueFault("swan stop" + " ".repeat(191), 200);
+            RoundAndUp x = new RoundAndUp();
+            for (int end : ends) {
+                due("a longer one ahead of it", text(x, "swan stop;".repeat(8)), 8);
+                due("rules() of the first " + end, text(x, whole.substring(0, end)), -100 - end);
+            }
         });
     }
 
@@ -845,7 +939,26 @@ public final class BoundaryTest {
             x.change(1, 2, 4);
             due("PHASES 2 and 4 meet in 100 first", x.nextClash(0), 100);
             due("they are PHASES", x.phases(0) >> 2 & 1, 1);
+            // By PHASES 7 and 7 both would be HIGH in the turn ahead of 0, then in 119.
+            x.change(0, 2, 7);
+            x.change(1, 2, 7);
+            due("PHASES 7 and 7 meet in 119 first", x.nextClash(0), 119);
+            due("they are PHASES", x.phases(0) >> 7 & 1, 1);
+            due("they are PHASES", x.phases(1) >> 7 & 1, 1);
             due("of one alone all are", horses(12, 6).phases(0), 4095);
+        });
+        terms("with one BESIDE it", () -> {
+            // On CRANK 12 by LEVEL 6 two horses meet by the same PHASE alone.
+            for (int n = 2; n <= 9; n++) {
+                RoundAndUp x = new RoundAndUp();
+                for (int i = 0; i < n; i++) {
+                    x.animal(HORSE, 12, i, 0);
+                }
+                x.level(6);
+                for (int i = 0; i < n; i++) {
+                    due("phases(" + i + ") of " + n, x.phases(i), 4095 & ~(1 << (i + 1) % n) & ~(1 << (i + n - 1) % n));
+                }
+            }
         });
         terms("a row of PHASES, one below its CRANK for each ANIMAL", () -> {
             RoundAndUp x = horses(2, 11);
@@ -861,6 +974,15 @@ public final class BoundaryTest {
             due("two by turns", three.tune(1), 1);
             three.animal(HORSE, 2, 0, 0);
             due("three can't", three.tune(1), NONE);
+            // What a longer crank had been tuned by doesn't count for a shorter one.
+            RoundAndUp shorter = horses(12, 0, 0);
+            shorter.level(6);
+            due("two of CRANK 12", shorter.tune(1), 1);
+            shorter.change(0, 1, 2);
+            shorter.change(1, 1, 3);
+            shorter.level(1);
+            due("two of CRANKS 2 and 3", shorter.tune(0), NONE);
+            due("two of CRANKS 2 and 3", shorter.tuneAll(), NONE);
         });
         terms("by which there is no CLASH in TURNS 0 to 99", () -> {
             // On CRANKS 10 and 11 by LEVEL 5 all rows have a CLASH: PHASES 5 and 5 in 0 alone, 6 and 6 in 99 alone.
@@ -891,6 +1013,35 @@ public final class BoundaryTest {
             for (int i = 0; i < 9; i++) {
                 due("tune(" + i + ")", x.tune(i), row[i]);
             }
+            // By LEVEL 6 on CRANK 12 two BESIDE one another go by other PHASES: the last by another than the first, too, from three on.
+            int[][] rows = {{0}, {0, 1}, {0, 1, 2}, {0, 1, 0, 1}, {0, 1, 0, 1, 2}, {0, 1, 0, 1, 0, 1}, {0, 1, 0, 1, 0, 1, 2}, {0, 1, 0, 1, 0, 1, 0, 1}};
+            for (int[] want : rows) {
+                RoundAndUp y = horses(12, want);
+                y.level(6);
+                due("as it is", y.tuneAll(), 0);
+                for (int i = 0; i < want.length; i++) {
+                    due("tune(" + i + ") of " + want.length, y.tune(i), want[i]);
+                }
+            }
+            // On CRANK 8 a lame one is at PHASE and (t modulo 7): by LEVEL 4 it is never HIGH by PHASE 5 alone.
+            RoundAndUp lame = ring(LAME, 8, 0, 0, HORSE, 8, 3, 0);
+            lame.level(4);
+            due("the first by 5", lame.tune(0), 5);
+            due("the second by 0", lame.tune(1), 0);
+            lame.animal(HORSE, 8, 1, 0);
+            int[] three = {5, 0, 1};
+            for (int i = 0; i < 3; i++) {
+                due("tune(" + i + ")", lame.tune(i), three[i]);
+            }
+            due("two are others than before", lame.tuneAll(), 2);
+            RoundAndUp one = ring(LAME, 8, 0, 0);
+            one.level(4);
+            one.keep();
+            one.animal(HORSE, 8, 3, 0);
+            due("the first of two by 5", one.tune(0), 5);
+            one.again();
+            due("the first alone by 0", one.tune(0), 0);
+            due("it is no other than before", one.tuneAll(), 0);
         });
     }
 
@@ -1011,6 +1162,13 @@ public final class BoundaryTest {
             x.photo(0, 0, 4);
             x.photo(0, 0, 0);
             due("but for either: the least", x.liar(0), 0);
+            // By PHASE 8, that is not below its CRANK, it would stop, down, and both would tell its HEIGHT.
+            RoundAndUp y = horses(8, 0);
+            text(y, "horse if phase = 8 stop;");
+            y.photo(0, 0, 0);
+            y.photo(0, 1, 0);
+            due("PHASES below its CRANK alone", y.fits(0), 0);
+            due("PHASES below its CRANK alone", y.liar(0), 0);
         });
         terms("SLIP: PHASE becomes that and n more, modulo CRANK (0 or more).", () -> {
             int[][] slips = {{8, 7, 1, 0}, {8, 0, -1, 7}, {8, 11, 0, 3}, {2, 11, 0, 1}, {2, 0, -11, 1}, {2, 11, 11, 0}, {3, 0, -11, 1}, {12, 11, 11, 10}, {12, 0, -11, 1}, {12, 0, 0, 0}, {2, 0, -10, 0}};
@@ -1941,6 +2099,30 @@ public final class BoundaryTest {
             due("nothing", x.taken(0, 14), NOTHING);
             due("the SHEET stays", x.item(3, 4, 39), 0);
         });
+        promise(45, "(1; nothing, if missing), nothing (2)", () -> {
+            RoundAndUp x = horses(8, 0);
+            x.sheet(0, 0, 3);
+            x.shelf(0, 0, 0);
+            due("a horse", x.act(0, 0, 5), 15);
+            x.shelf(0, 1, 0);
+            due("a row in its place", x.taken(0, 10), 3);
+            due("is no thing that acts", x.act(0, 0, 5), 0);
+            due("is no horse", x.taken(0, 1), SORT);
+            x.shelf(0, 0, 0);
+            due("a horse in its place", x.taken(0, 1), 0);
+            due("is no row", x.taken(0, 10), SORT);
+            due("acts", x.act(0, 0, 5), 15);
+            x.shelf(0, 1, 1);
+            due("nothing in its place, as it is missing", x.taken(0, 1), NOTHING);
+            due("doesn't act", x.act(0, 0, 5), 0);
+            x.shelf(0, 1, 0);
+            x.shelf(0, 2, -1);
+            due("nothing in a row's place, whatever n is", x.taken(0, 10), NOTHING);
+            x.shelf(0, 0, 0);
+            x.shelf(0, 2, MAX);
+            due("nothing in a horse's place", x.taken(0, 1), NOTHING);
+            due("doesn't act", x.act(0, 0, 5), 0);
+        });
         promise(45, "BAD: no such SHELF, what, thing.", () -> {
             RoundAndUp x = horses(8, 0, 0);
             x.shelf(0, 0, 1);
@@ -2022,6 +2204,26 @@ public final class BoundaryTest {
         });
     }
 
+    private static void alterAllThatIsKept(RoundAndUp x) {
+        for (int i = 0; i < 9; i++) {
+            x.paint(i, LAME);
+            x.change(i, 1, 11);
+            x.change(i, 2, 10);
+            x.change(i, 3, 98);
+        }
+        x.away();
+        for (int c = 0; c < 8; c++) {
+            x.child(1, 98);
+        }
+        x.ride();
+        x.burn();
+        for (int k = 0; k < 6; k++) {
+            x.photo(8, 7, 0);
+        }
+        x.level(7);
+        x.turn(9);
+    }
+
     private static void promises49To51() {
         promise(49, "5 bytes of THE TAPE, 6 bodies of THE TRACE (those kept, 30 at most). BAD: another what.", () -> {
             RoundAndUp none = new RoundAndUp();
@@ -2051,6 +2253,20 @@ public final class BoundaryTest {
             due("taken(0, 0)", x.taken(0, 0), 0);
             dueTrace(x, 20, 10);
             due("THE TAPE is 'an stop;'", x.rules(), -100);
+        });
+        promise(50, "is kept", () -> {
+            RoundAndUp x = full();
+            RoundAndUp y = full();
+            due("keep()", y.keep(), 1);
+            alterAllThatIsKept(y);
+            due("again()", y.again(), 9);
+            List<Integer> was = new ArrayList<>();
+            List<Integer> now = new ArrayList<>();
+            look(x, was);
+            look(y, now);
+            due("all is as it was", was.equals(now) ? 1 : 0, 1);
+            due("LEVEL", y.level(1), 0);
+            due("TURN", y.turn(1), 9991);
         });
         promise(51, "It becomes what was kept latest (which stays): how many ANIMALS.", () -> {
             RoundAndUp x = new RoundAndUp();
@@ -2105,6 +2321,7 @@ public final class BoundaryTest {
         numbersOfChildren();
         theTape();
         namesAndNumbers();
+        namesInPlaces();
         faults();
         turnsAsked();
         phasesAndTuned();
