@@ -651,6 +651,15 @@ public final class BoundaryTest {
             x.rules();
             due("many(5) behind rules()", x.many(5), 0);
             due("feed(0, 8) behind rules()", x.feed(0, 8), 8);
+            // As many comparisons as 200 bytes can hold: the last alone decides.
+            String[] lasts = {"1=1", "1=2"};
+            for (int k = 0; k < 2; k++) {
+                RoundAndUp y = ring(LAME, 8, 0, 0);
+                feedText(y, "lame if" + "1=2or".repeat(37) + lasts[k] + "stop;");
+                due("200 bytes of one RULE", y.many(5), 200);
+                due("rules() of these", y.rules(), 1);
+                due("it holds by its last, " + lasts[k], y.animalOf(0, 5), k == 0 ? 2 : 0);
+            }
             due("200 bytes are read", text(new RoundAndUp(), "lame stop;" + " ".repeat(180) + "lame free;"), 2);
         });
         terms("TEXT: { KIND DO ; | KIND if COND DO ; }", () -> {
@@ -1208,6 +1217,16 @@ public final class BoundaryTest {
             x.prove(0, 0, 1);
             x.alterRow(0, 0, -8);
             due("TURN -8", x.judge(0), 1);
+            // By PHASE 1 it would be down in the turn ahead of 0: PLACE and HEIGHT are right, the TURN alone isn't.
+            RoundAndUp y = horses(8, 1);
+            y.prove(0, 7, 1);
+            due("TURN 7: PLACE 0, HEIGHT 0", y.row(0, 1) + y.row(0, 2), 0);
+            y.alterRow(0, 0, -1);
+            due("TURN -1 with PLACE and HEIGHT as they would be", y.judge(0), 1);
+            // 100000 is 0 modulo 8.
+            y.prove(0, 0, 1);
+            y.alterRow(0, 0, 100000);
+            due("TURN 100000 with PLACE and HEIGHT as they would be", y.judge(0), 1);
         });
         terms("that is 1 more than that of the ROW ahead (of the first: any such)", () -> {
             RoundAndUp x = horses(8, 0);
