@@ -23,6 +23,8 @@ public final class FaceTest {
         + " sets(int,int,int) shelf(int,int,int) taken(int,int) act(int,int,int) trace(int) many(int) keep() again()";
     private static final String FORBIDDEN = "throw try catch finally synchronized assert record sealed var float double import\\s+(?!java\\.util\\.Arrays;)\\S+"
         + " @\\w+ -> :: package protected volatile transient native strictfp hashCode toString getClass System\\.(?!arraycopy)\\w+ Exact\\b \\.equals";
+    private static final Set<String> LIBRARY = Set.of("System.arraycopy", "Arrays.copyOf", "Arrays.copyOfRange", "Arrays.fill", "Math.abs", "Math.max", "Math.min",
+        "Math.floorDiv", "Math.floorMod", "Integer.bitCount", "Long.bitCount");
     private static int wrong = 0;
 
     private static void must(boolean holds, String what) {
@@ -96,6 +98,10 @@ public final class FaceTest {
             must(!m.find(), "nothing like " + word);
         }
         must(!code.contains("static {"), "no static block");
+        Matcher called = Pattern.compile("\\b(?:System|Arrays|Math|Integer|Long|String|Character|Short|Byte|Boolean|Objects|Collections|List|Runtime|Thread)\\.\\w+").matcher(code);
+        while (called.find()) {
+            must(LIBRARY.contains(called.group()), called.group() + " stands in LANGUAGE.md, rule 4");
+        }
     }
 
     public static void main(String[] args) throws Exception {
