@@ -682,6 +682,7 @@ public final class BoundaryTest {
             due("it doesn't hold", x.animalOf(0, 5), 0);
             due("the eighth with another", text(x, "lame stop;".repeat(7) + "horse if 2 = 2 stop;"), 8);
             due("it holds", x.animalOf(0, 5), 2);
+            eightDearRules();
         });
         terms("KIND: animal | horse | swan | white | lame | ostrich.", () -> {
             dueText("animal free; horse free; swan free; white free; lame free; ostrich free;", 6);
@@ -752,6 +753,28 @@ public final class BoundaryTest {
             text(x, "swan if price = 7 dear 1;");
             due("not by PRICE NOW", x.animalOf(0, 4), 16);
         });
+    }
+
+    /** Eight RULES, 200 bytes, each of its own CRANK and N: all are asked, also when they come back. */
+    private static void eightDearRules() {
+        RoundAndUp x = new RoundAndUp();
+        StringBuilder all = new StringBuilder();
+        for (int crank = 2; crank <= 9; crank++) {
+            x.animal(HORSE, crank, 0, 0);
+            all.append("horse if crank=").append(crank).append(" dear ").append(crank).append("1;");
+        }
+        due("bytes", all.length(), 200);
+        due("rules()", text(x, all.toString()), 8);
+        for (int i = 0; i < 8; i++) {
+            due("dear " + (i + 2) + "1", x.animalOf(i, 4), 10 * i + 21);
+        }
+        x.keep();
+        text(x, "horse free;");
+        due("free", x.animalOf(7, 4), 0);
+        x.again();
+        for (int i = 0; i < 8; i++) {
+            due("dear " + (i + 2) + "1, come back", x.animalOf(i, 4), 10 * i + 21);
+        }
     }
 
     private static void namesAndNumbers() {
@@ -1051,7 +1074,37 @@ public final class BoundaryTest {
             one.again();
             due("the first alone by 0", one.tune(0), 0);
             due("it is no other than before", one.tuneAll(), 0);
+            dueRow("a white one is never HIGH at PLACE 0 alone, in turns 3 modulo 7; the lame one then, by 3, alone",
+                2, new int[] {WHITE, 7, 0, 0, LAME, 4, 0, 0}, 4, 3);
+            dueRow("the ostrich is HIGH in turns 3 and 4 modulo 8, the horse DOWN in the second of these",
+                2, new int[] {OSTRICH, 4, 0, 0, HORSE, 8, 0, 0}, 0, 4);
+            dueRow("two by half of 12 less 1 from one another, and one that is never HIGH",
+                4, new int[] {HORSE, 12, 0, 0, HORSE, 12, 0, 0, LAME, 3, 0, 0}, 0, 5, 0);
+            dueRow("the second by more than the CRANK of the third", 3, new int[] {HORSE, 8, 0, 0, HORSE, 8, 0, 0, WHITE, 4, 0, 0}, 0, 4, 0);
+            dueRow("the third by more than the CRANK of the first", 3, new int[] {WHITE, 4, 0, 0, HORSE, 8, 0, 0, HORSE, 8, 0, 0}, 0, 0, 4);
+            // TEETH are 0 to 50: the first is HIGH by 5, 15, .. 45, which are 5, 3, 1, 11, 9 modulo 12.
+            dueRow("the greatest PHASE that there is", 5, new int[] {OSTRICH, 10, 0, 0, OSTRICH, 12, 0, 0}, 0, 11);
+            dueRow("the swan comes to each PLACE in turns of the horse", 3, new int[] {LAME, 3, 0, 0, SWAN, 10, 0, 0, HORSE, 6, 0, 0}, NONE, NONE, NONE);
+            RoundAndUp twice = ring(WHITE, 7, 0, 0, LAME, 4, 0, 0);
+            twice.level(2);
+            due("the first by 4", twice.tune(0), 4);
+            for (int i = 0; i < 2; i++) {
+                twice.paint(i, HORSE);
+                twice.change(i, 1, 12);
+            }
+            twice.level(4);
+            due("the second by 5, asked ahead of the first", twice.tune(1), 5);
+            due("the first by 0", twice.tune(0), 0);
         });
+    }
+
+    /** The first TUNED row of ANIMALS, four numbers each, by a LEVEL. */
+    private static void dueRow(String what, int level, int[] fours, int... want) {
+        RoundAndUp x = ring(fours);
+        x.level(level);
+        for (int i = 0; i < want.length; i++) {
+            due("tune(" + i + "): " + what, x.tune(i), want[i]);
+        }
     }
 
     private static void seats() {
@@ -1092,6 +1145,26 @@ public final class BoundaryTest {
             y.child(1, 8);
             due("the second can't pay 9", y.seats(), 9);
             due("seat(1)", y.seat(1), NONE);
+            RoundAndUp z = ring(HORSE, 8, 0, 1, HORSE, 8, 0, 2);
+            z.child(2, 2);
+            z.child(3, 3);
+            due("2 and 1", z.seats(), 3);
+            due("seat(0)", z.seat(0), 1);
+            due("seat(1)", z.seat(1), 0);
+            RoundAndUp w = ring(HORSE, 8, 0, 4);
+            w.child(0, 3);
+            w.child(0, 9);
+            w.child(1, 4);
+            due("the third alone", w.seats(), 4);
+            due("seat(0)", w.seat(0), NONE);
+            due("seat(1)", w.seat(1), NONE);
+            due("seat(2)", w.seat(2), 0);
+            RoundAndUp v = ring(HORSE, 8, 0, 7);
+            v.child(1, 1);
+            v.child(1, 8);
+            due("the second alone", v.seats(), 7);
+            due("seat(0)", v.seat(0), NONE);
+            due("seat(1)", v.seat(1), 0);
         });
         terms("Of several the first: by CHILDREN in turn the least ANIMAL, on none behind all ANIMALS.", () -> {
             RoundAndUp x = ring(HORSE, 8, 0, 5, HORSE, 8, 0, 5, HORSE, 8, 0, 5, HORSE, 8, 0, 0);
@@ -1171,6 +1244,25 @@ public final class BoundaryTest {
             x.photo(0, 0, 4);
             x.photo(0, 0, 0);
             due("but for either: the least", x.liar(0), 0);
+            // Both 1 and 2 tell HEIGHT 3 in turn 2; in turn 0 PHASE 1 is 1 high and PHASE 2 is 2 high; all others are wrong twice.
+            RoundAndUp seven = horses(7, 0);
+            seven.photo(0, 2, 3);
+            seven.photo(0, 0, 1);
+            seven.photo(0, 0, 2);
+            due("PHASE 1 but for the third, 2 but for the second", seven.liar(0), 1);
+            RoundAndUp other = horses(7, 0);
+            other.photo(0, 2, 3);
+            other.photo(0, 0, 2);
+            other.photo(0, 0, 1);
+            due("PHASE 1 but for the second, 2 but for the third", other.liar(0), 1);
+            RoundAndUp stopped = horses(8, 0);
+            text(stopped, "horse stop;");
+            stopped.photo(0, 0, 2);
+            stopped.photo(0, 5, 2);
+            stopped.photo(0, 9, 4);
+            due("it stops at PLACE 2", stopped.liar(0), 2);
+            text(stopped, "horse slow;");
+            due("it goes slowly: by PHASE 0 it is 0, 2, 4 high", stopped.liar(0), 0);
             // By PHASE 8, that is not below its CRANK, it would stop, down, and both would tell its HEIGHT.
             RoundAndUp y = horses(8, 0);
             text(y, "horse if phase = 8 stop;");
@@ -1284,6 +1376,11 @@ public final class BoundaryTest {
             due("a swan turns by CRANK 8", x.act(0, 1, 5), 4);
             x.change(1, 1, 12);
             due("a swan turns by CRANK 12", x.act(0, 1, 5), 0);
+            RoundAndUp y = ring(WHITE, 2, 0, 0, HORSE, 8, 0, 0, HORSE, 8, 0, 0, HORSE, 8, 0, 0, WHITE, 3, 0, 0);
+            y.shelf(0, 0, 0);
+            y.shelf(1, 0, 4);
+            due("a white one, number 0, tells: 15 * 2 ^ 2, and 0 by 2", y.act(0, 3, 5), 28);
+            due("a white one, number 4, tells: (15 ^ 4) * 2 ^ 3, and 4 by -1", y.act(1, 3, 1), 17);
         });
         terms("12 shares: x by (a - n), the rest away (-15 if these are the same; that is all that act() answers then)", () -> {
             RoundAndUp x = horses(3, 0, 0, 0, 0, 0);
@@ -1393,6 +1490,13 @@ public final class BoundaryTest {
             int[] want = {BAD, 5, 12, 11, 99, 198, 0, 1, BAD};
             for (int what = -1; what <= 7; what++) {
                 due("animalOf(0, " + what + ")", x.animalOf(0, what), want[what + 1]);
+            }
+            RoundAndUp y = ring(SWAN, 3, 5, 7, LAME, 4, 6, 8, HORSE, 6, 1, 2, OSTRICH, 7, 2, 3, WHITE, 5, 0, 4);
+            int[][] fives = {{2, 3, 5, 7, 14}, {4, 4, 6, 8, 8}, {1, 6, 1, 2, 2}, {5, 7, 2, 3, 6}, {3, 5, 0, 4, 4}};
+            for (int i = 0; i < 5; i++) {
+                for (int what = 0; what < 5; what++) {
+                    due("animalOf(" + i + ", " + what + ")", y.animalOf(i, what), fives[i][what]);
+                }
             }
         });
         promise(3, "5 how a RULE lets it go (0 as it goes, 1 slow, 2 stop), 6 HEIGHT in TURN. BAD.", () -> {
@@ -1705,6 +1809,12 @@ public final class BoundaryTest {
             due("it would be the 1001st", x.together(15, 5), NONE);
             due("it is behind", x.together(15, 1006), NONE);
             due("all of none", x.together(0, 7), 7);
+            RoundAndUp white = ring(HORSE, 3, 0, 0, WHITE, 4, 1, 0);
+            due("DOWN by PLACE, not by HEIGHT", white.together(2, 0), 3);
+            text(white, "horse if crank = 3 stop;");
+            due("the horse stops, down; the white one goes", white.together(3, 4), 7);
+            text(white, "white stop;");
+            due("the white one stops, asked first of all", white.together(2, 0), NONE);
         });
         promise(24, "BAD: also a set with others; NONE.", () -> {
             RoundAndUp x = horses(12, 0, 1);
@@ -1730,6 +1840,16 @@ public final class BoundaryTest {
             due("SLIP wraps", x.slipped(0, 4), 0);
             due("SLIP wraps, in turn 3", x.slipped(3, 1), 0);
             due("PHASES stay", x.animalOf(0, 2), 11);
+            // The second stops at PLACE 4 and is HIGH; in turn 2 the first is at PLACE 5, behind the SLIP at 6.
+            RoundAndUp y = horses(8, 3, 4);
+            text(y, "horse if number = 1 stop;");
+            due("the other one stops, asked first of all", y.slipped(2, 2), 0);
+            RoundAndUp z = ring(HORSE, 8, 2, 0, LAME, 2, 0, 0, LAME, 2, 0, 0, LAME, 2, 0, 0);
+            text(z, "horse stop;");
+            due("by its own RULE: stopped at PLACE 3", z.slipped(4, 1), 0);
+            RoundAndUp w = ring(LAME, 2, 0, 0, LAME, 2, 0, 0, SWAN, 8, 1, 0);
+            due("by its own KIND: half of 3 and 2", w.slipped(3, 4), 2);
+            due("it isn't HIGH yet", w.high(3), 0);
         });
         promise(25, "BAD: also a set with others; NONE.", () -> {
             RoundAndUp x = horses(6, 2, 2);
@@ -2286,6 +2406,22 @@ public final class BoundaryTest {
             due("all is as it was", was.equals(now) ? 1 : 0, 1);
             due("LEVEL", y.level(1), 0);
             due("TURN", y.turn(1), 9991);
+            RoundAndUp z = nine();
+            for (int c = 0; c < 8; c++) {
+                z.child(1 << 8 - c, 10 + c);
+            }
+            due("all ride", z.ride(), 8);
+            z.keep();
+            z.away();
+            for (int c = 0; c < 8; c++) {
+                z.child(0, 0);
+            }
+            z.again();
+            for (int c = 0; c < 8; c++) {
+                due("WISH of " + c, z.childOf(c, 0), 1 << 8 - c);
+                due("COINS of " + c, z.childOf(c, 1), 10 + c);
+                due("RIDES of " + c, z.childOf(c, 2), 8 - c);
+            }
         });
         promise(51, "It becomes what was kept latest (which stays): how many ANIMALS.", () -> {
             RoundAndUp x = new RoundAndUp();

@@ -661,10 +661,12 @@ public final class ModelTest {
 
     private static String text() {
         String s = "";
-        int n = some(20) == 0 ? 9 : some(5);
+        boolean isLong = some(8) == 0;
+        int n = isLong ? 6 + some(4) : some(5);
         for (int k = 0; k < n; k++) {
             s += pick("animal", "horse", "swan", "white", "lame", "ostrich") + " ";
-            if (some(3) > 0) s += "if " + cond(0) + " ";
+            if (isLong) s += some(4) > 0 ? "if number=" + some(10) + " " : "";
+            else if (some(3) > 0) s += "if " + cond(0) + " ";
             s += pick("free", "slow", "stop", "dear " + some(100), "dear" + some(105)) + pick(";", " ; ");
         }
         if (s.length() > 200) s = some(3) == 0 ? s.substring(0, 200) : pick("horse slow;", "animal if number > 2 stop;", "");
