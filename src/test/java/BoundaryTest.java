@@ -509,6 +509,9 @@ public final class BoundaryTest {
             // 6 teeth by 6, 8 by 7, 14 by 13, 16 by 14.
             dueHeights(x, 4, new int[] {0, 6, 7, 13, 14}, new int[] {0, 6, 4, 2, 4});
         });
+        terms("A RULE changes an ANIMAL", () -> {
+            askedFirst();
+        });
         terms("the first of THE RULES whose KIND is its or above it, and whose condition holds", () -> {
             RoundAndUp x = ring(HORSE, 8, 0, 5, WHITE, 8, 0, 5, SWAN, 8, 0, 5, LAME, 8, 0, 5, OSTRICH, 8, 0, 5);
             text(x, "white dear 1; horse dear 2; horse dear 3; swan if number = 2 dear 4; swan dear 5;");
@@ -753,6 +756,54 @@ public final class BoundaryTest {
             text(x, "swan if price = 7 dear 1;");
             due("not by PRICE NOW", x.animalOf(0, 4), 16);
         });
+    }
+
+    /** Two horses of CRANK 8 and PRICE 5, of which THE RULES have been told, but nothing has been asked yet. */
+    private static RoundAndUp told(int first, int second, String rules) {
+        RoundAndUp x = ring(HORSE, 8, first, 5, HORSE, 8, second, 5);
+        text(x, rules);
+        return x;
+    }
+
+    /** Whatever is asked first, THE RULES are asked ahead of it. */
+    private static void askedFirst() {
+        String stop = "horse stop;";
+        due("height(0, 4)", told(3, 3, stop).height(0, 4), 3);
+        due("high(4)", told(3, 3, stop).high(4), 3);
+        due("clash(4)", told(3, 3, stop).clash(4), 0);
+        due("nextClash(3)", told(3, 3, stop).nextClash(3), 3);
+        due("quiet(3, 5)", told(3, 3, stop).quiet(3, 5), 0);
+        due("rings(0, 0, 200)", told(3, 3, stop).rings(0, 0, 200), 100);
+        due("firstRing(0, 3)", told(3, 3, stop).firstRing(0, 3), 4);
+        due("mostRings(3, 1)", told(3, 3, stop).mostRings(3, 1), 1);
+        due("levelFor(3, 5)", told(3, 3, stop).levelFor(3, 5), 4);
+        due("organ(0, 2, 1)", told(3, 3, stop).organ(0, 2, 1), NONE);
+        due("together(1, 0)", told(3, 3, stop).together(1, 0), NONE);
+        due("slipped(4, 3)", told(3, 3, stop).slipped(4, 3), 0);
+        String second = "horse if number = 1 stop;";
+        due("phases(0): the other one stops, down", told(3, 0, second).phases(0), 255);
+        due("tune(1)", told(3, 0, second).tune(1), 0);
+        due("tuneAll()", told(3, 0, second).tuneAll(), 1);
+        String dear = "horse dear 2;";
+        due("PRICE NOW", told(3, 3, dear).animalOf(0, 4), 7);
+        due("how it goes", told(3, 3, stop).animalOf(0, 5), 2);
+        RoundAndUp x = told(3, 3, stop);
+        x.turn(4);
+        due("HEIGHT in TURN", x.animalOf(0, 6), 3);
+        RoundAndUp y = told(3, 3, stop);
+        y.prove(0, 4, 1);
+        due("PLACE in a ROW", y.row(0, 1), 3);
+        y.alterRow(0, 0, 2);
+        text(y, "horse free;");
+        due("it goes: PLACE 5 in turn 2", y.judge(0), 1);
+        RoundAndUp z = told(3, 3, dear);
+        z.child(3, 9);
+        due("seats()", z.seats(), 7);
+        text(z, "horse dear 5;");
+        due("seat(0)", z.seat(0), NONE);
+        text(z, "horse dear 3;");
+        due("ride()", z.ride(), 1);
+        due("8 are paid", z.childOf(0, 1), 1);
     }
 
     /** Eight RULES, 200 bytes, each of its own CRANK and N: all are asked, also when they come back. */
@@ -1263,6 +1314,13 @@ public final class BoundaryTest {
             due("it stops at PLACE 2", stopped.liar(0), 2);
             text(stopped, "horse slow;");
             due("it goes slowly: by PHASE 0 it is 0, 2, 4 high", stopped.liar(0), 0);
+            // As it goes by PHASE 7 it would be 0 and 1 high; but by 7 it stops, and PHASE -1 is none.
+            RoundAndUp last = horses(8, 0);
+            text(last, "horse if phase = 7 stop;");
+            last.photo(0, 1, 0);
+            last.photo(0, 2, 1);
+            due("PHASES from 0 on alone", last.fits(0), 0);
+            due("PHASES from 0 on alone", last.liar(0), 0);
             // By PHASE 8, that is not below its CRANK, it would stop, down, and both would tell its HEIGHT.
             RoundAndUp y = horses(8, 0);
             text(y, "horse if phase = 8 stop;");
@@ -1347,6 +1405,17 @@ public final class BoundaryTest {
             x.alterRow(0, 2, 5);
             due("HEIGHT 5", x.judge(0), 1);
             x.prove(0, 5, 1);
+            x.alterRow(0, 2, 2);
+            due("HEIGHT 2", x.judge(0), 1);
+            x.prove(0, 5, 1);
+            x.alterRow(0, 2, MIN);
+            due("HEIGHT MIN", x.judge(0), 1);
+            x.prove(0, 5, 1);
+            x.alterRow(0, 1, 4);
+            due("PLACE 4", x.judge(0), 1);
+            x.alterRow(0, 1, 5);
+            due("as it was", x.judge(0), 0);
+            x.prove(0, 5, 1);
             x.alterRow(0, 1, 13);
             due("PLACE 13", x.judge(0), 1);
         });
@@ -1381,6 +1450,12 @@ public final class BoundaryTest {
             y.shelf(1, 0, 4);
             due("a white one, number 0, tells: 15 * 2 ^ 2, and 0 by 2", y.act(0, 3, 5), 28);
             due("a white one, number 4, tells: (15 ^ 4) * 2 ^ 3, and 4 by -1", y.act(1, 3, 1), 17);
+            y.paint(0, OSTRICH);
+            due("an ostrich shares: 5 by 2, and lifts(2)", y.act(0, 2, 5), 4);
+            y.paint(0, LAME);
+            due("a lame one shares: 6 by 2", y.act(0, 2, 5), 3);
+            y.paint(0, SWAN);
+            due("a swan shares: 5 by 2", y.act(0, 2, 5), 2);
         });
         terms("12 shares: x by (a - n), the rest away (-15 if these are the same; that is all that act() answers then)", () -> {
             RoundAndUp x = horses(3, 0, 0, 0, 0, 0);
@@ -1754,6 +1829,10 @@ public final class BoundaryTest {
             due("none", x.phases(0), 0);
             x.level(7);
             due("all", x.phases(1), 4095);
+            RoundAndUp y = horses(8, 4, 3);
+            text(y, "horse stop;");
+            due("HIGH by LEVEL 3 at PLACES 3, 4, 5", y.phases(0), 199);
+            due("all others", y.phases(1), 199);
             due("phases(2)", x.phases(2), BAD);
             due("phases(-1)", x.phases(-1), BAD);
         });
@@ -1850,6 +1929,8 @@ public final class BoundaryTest {
             RoundAndUp w = ring(LAME, 2, 0, 0, LAME, 2, 0, 0, SWAN, 8, 1, 0);
             due("by its own KIND: half of 3 and 2", w.slipped(3, 4), 2);
             due("it isn't HIGH yet", w.high(3), 0);
+            due("HIGH by more than LEVEL", horses(8, 3).slipped(0, 1), 0);
+            due("no more HIGH", horses(8, 5).slipped(0, 0), 0);
         });
         promise(25, "BAD: also a set with others; NONE.", () -> {
             RoundAndUp x = horses(6, 2, 2);
@@ -2043,6 +2124,10 @@ public final class BoundaryTest {
             }
             x.prove(0, 0, 1);
             due("row(1, 0) of one", x.row(1, 0), -9);
+            due("row(19, 0) of one", x.row(19, 0), -9);
+            due("alterRow(19, 0, 1) of one", x.alterRow(19, 0, 1), -9);
+            x.prove(0, 0, 20);
+            due("it wasn't altered", x.row(19, 0), 19);
         });
         promise(39, "It becomes v: what it was. -9 likewise.", () -> {
             RoundAndUp x = horses(8, 5);
